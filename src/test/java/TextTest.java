@@ -9,6 +9,7 @@ public final class TextTest {
         syntaxFaults();
         roomFaults();
         laterFaults();
+        oneAfterTheOther();
         promise5();
         Checks.end("TextTest");
     }
@@ -79,7 +80,9 @@ public final class TextTest {
         Checks.due("count(13)", x.count(13), 1);
         Checks.due("count(1)", x.count(1), 23);
         // A fault changes nothing but the tape.
+        x.hold(0);
         x.hold(1);
+        x.hold(2);
         x.turn(0);
         x.tell(1, 2, true);
         Checks.feed(x, "sleeper c 1 1; sleeper");
@@ -89,7 +92,7 @@ public final class TextTest {
         Checks.due("count(3)", x.count(3), 0);
         Checks.due("count(8)", x.count(8), 1);
         Checks.due("count(9)", x.count(9), 1);
-        Checks.due("count(10)", x.count(10), 1);
+        Checks.due("count(10)", x.count(10), 3);
         Checks.due("sleeper(1, 3)", x.sleeper(1, 3), 5);
         x.hours(5);
         // A text without is in place of the one ahead, with nothing kept of it.
@@ -101,8 +104,17 @@ public final class TextTest {
         }
         Checks.due("sleeper(0, 2)", x.sleeper(0, 2), 0);
         Checks.due("sleeper(0, 9)", x.sleeper(0, 9), 0);
-        Checks.due("restore(1)", x.restore(1), false);
+        for (int slot = 0; slot < 3; slot++) {
+            Checks.due("restore(" + slot + ")", x.restore(slot), false);
+        }
         Checks.due("undo()", x.undo(), false);
+        Checks.feed(x, "sleeper a 1 1; chills = 100;");
+        x.read();
+        x.hours(7);
+        Checks.due("count(11)", x.count(11), 7);
+        Checks.feed(x, "sleeper a 1 1;");
+        x.read();
+        Checks.due("count(11)", x.count(11), 0);
         Checks.due("read() of nothing", x.read(), 0);
         Checks.due("count(0)", x.count(0), 0);
         // Blanks need not stand between, and may stand anywhere.
@@ -227,6 +239,8 @@ public final class TextTest {
         Checks.fault("lies = " + ifs + "1; parts = " + ifs + "1;", 0, -1);
         Checks.fault("lies = " + ifs + "if 1 < 2 then 3 else 1;", 2, 7 + ifs.length());
         Checks.fault("lies = ((((((1)))))) + ((((((1))))));", 0, -1);
+        Checks.fault("lies = if ((((((1)))))) < ((((((1)))))) then ((((((1)))))) else ((((((1))))));", 0, -1);
+        Checks.fault("lies = if 1 < 2 then (((((((1))))))) else 1;", 2, 27);
         Checks.fault("lies = (((((((1)))))));", 2, 13);
         Checks.fault("lies = 1 + (((((( 2 * ( 1 ))))))); ?", 2, 22);
         // "lies = 1", n times "+ 1", and ";" are 4 + 2 n tokens, "ring 1;" are 3
@@ -255,6 +269,30 @@ public final class TextTest {
         Checks.fault("cold 1 1; sleeper a 1 0; sleeper b 0 0;", 0, -1);
         Checks.fault("cold 8 1; ring 2;", 5, 15);
         Checks.fault("cold 8 1; sleeper ab 1 1; sleeper abc 1 1; sleeper ab 1 1;", 3, 51);
+    }
+
+    /** One object reads many texts: nothing of one stays for the next. */
+    private static void oneAfterTheOther() {
+        Checks.about("one after the other");
+        PartedSide x = new PartedSide();
+        String nine = "";
+        for (int i = 0; i < 9; i++) {
+            nine += "sleeper " + (char) ('a' + i) + " 1 0;cold " + i + " 9;";
+        }
+        String[] texts = {nine, nine + "cold 0 1;", nine, "sleeper a 2 0;", "sleeper a 1 0;", "sleeper a 1 0; sleeper a 1 0;",
+            "cold 1 1;", "", "sleeper b 0 0;", "lies = if 1 < 2 then", "sleeper a 1 1; cold 0 1;", "sleeper a 1 1; ring 1; lies = 1;",
+            "sleeper a 0 1;"};
+        int[] faults = {0, 2, 0, 5, 0, 3, 6, 0, 0, 1, 0, 0, 0};
+        int[] places = {-1, nine.length(), -1, 10, -1, 23, 9, -1, -1, 20, -1, -1, -1};
+        for (int i = 0; i < texts.length; i++) {
+            Checks.feed(x, texts[i]);
+            Checks.due("read() " + i, x.read(), faults[i]);
+            Checks.due("place() " + i, x.place(), places[i]);
+        }
+        Checks.due("sleeper(0, 3)", x.sleeper(0, 3), 0);
+        Checks.due("sleeper(0, 5)", x.sleeper(0, 5), 0);
+        Checks.due("count(13)", x.count(13), 0);
+        Checks.due("count(6)", x.count(6), 0);
     }
 
     private static void promise5() {

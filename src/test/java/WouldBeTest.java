@@ -84,6 +84,19 @@ public final class WouldBeTest {
         Checks.due("turned(3, 1), the fewest for nothing", x.turned(3, 1), 1);
         x = row("1111", "lies = own; costs = 0;");
         Checks.due("turned(3, 1), nobody", x.turned(3, 1), 0);
+        // all lie left next if a and b do now, or c does: for 2 either way, so the fewest, though their bits are more
+        String law = "ring 1; lies = if bed < 1 then own * behind + before else if bed < 2 then own * before + behind "
+            + "else before * behind + own;";
+        x = row("000", law + "costs = 1 + bed / 2;");
+        Checks.due("turned(1, 0)", x.turned(1, 0), 2);
+        Checks.due("turned(1, 1)", x.turned(1, 1), 4);
+        x = row("000", law + "costs = 1 + bed / 2 * 2;");
+        Checks.due("turned(1, 0), two for 2", x.turned(1, 0), 2);
+        Checks.due("turned(1, 1)", x.turned(1, 1), 3);
+        // within 2 hours one alone is enough, within 1 it takes two
+        x = row("00000", "ring 1; lies = own + before + behind; costs = if bed < 2 then 1 else if bed < 3 then 2 else 9;");
+        Checks.due("turned(2, 1)", x.turned(2, 1), 1);
+        Checks.due("turned(1, 1)", x.turned(1, 1), 5);
         x = row("00", "lies = before;");
         Checks.due("turned(1, 0)", x.turned(1, 0), -2);
         Checks.due("turned(1, 1)", x.turned(1, 1), -2);
@@ -110,6 +123,13 @@ public final class WouldBeTest {
         x = row("0110", "lies = own + before + behind;");
         Checks.due("soonest(0)", x.soonest(0), 1);
         Checks.due("soonest(1), nobody", x.soonest(1), -3);
+        x = row("100", "lies = 1 - own;");
+        Checks.due("soonest(0), by turning one who lies left", x.soonest(0), 1);
+        Checks.due("soonest(1)", x.soonest(1), 0);
+        x = row("00", "lies = if parted < 0 - 22 then 1 else 0;");
+        Checks.due("soonest(0), 24 hours on by partings", x.soonest(0), 24);
+        x = row("00", "lies = if parted < 0 - 23 then 1 else 0;");
+        Checks.due("soonest(0), 25 hours are too many", x.soonest(0), -2);
         x = row("1111", "lies = 0;");
         Checks.due("soonest(0)", x.soonest(0), 0);
         Checks.due("soonest(1)", x.soonest(1), -3);
@@ -468,6 +488,10 @@ public final class WouldBeTest {
         PartedSide x = Checks.told("sleeper a 1 0; sleeper b 0 2; parts = 3; chills = 100 * bed;");
         Checks.due("leave(0)", x.leave(0), 1);
         Checks.due("leave(1)", x.leave(1), -2);
+        x = row("1", "");
+        x.hours(1);
+        x.turn(0);
+        Checks.due("leave(0), from 1 to 0", x.leave(0), 1);
         x = row("10", "parts = 3;");
         x.hours(5);
         x.whistle();
