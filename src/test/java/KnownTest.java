@@ -9,6 +9,7 @@ public final class KnownTest {
         promise36();
         promise37();
         promise38();
+        fewerSleepers();
         Checks.end("KnownTest");
     }
 
@@ -86,6 +87,24 @@ public final class KnownTest {
         lay(x, 0, 1, 0, 0, 0);
     }
 
+    /** Rows of many sleepers that fit are none of fewer sleepers. */
+    private static void fewerSleepers() {
+        Checks.about("fewer sleepers");
+        PartedSide x = new PartedSide();
+        String nine = "";
+        for (int i = 0; i < 9; i++) {
+            nine += "sleeper " + (char) ('a' + i) + " 1 0;";
+        }
+        Checks.feed(x, nine + "lies = 1;");
+        x.read();
+        Checks.due("look(0, 1)", x.look(0, 1), 0);
+        Checks.feed(x, "sleeper a 0 0; sleeper b 0 0; lies = if bed < 1 then 1 else own;");
+        x.read();
+        x.tell(0, 0, false);
+        Checks.due("look(1, 1), a lies left then anyway", x.look(1, 1), 1);
+        Checks.due("lay(1, 0)", x.lay(1, 0), 2);
+    }
+
     private static void promise38() {
         Checks.about("promise 38");
         PartedSide x = Checks.told(FOUR + "lies = if bed < 1 then before + own + behind else own;");
@@ -100,8 +119,14 @@ public final class KnownTest {
         Checks.due("look(1, 24), by the first alone", x.look(1, 24), 2);
         x.tell(3, 0, false);
         Checks.due("look(3, 24), nothing is gained", x.look(3, 24), 0);
+        Checks.due("lay(3, 0)", x.lay(3, 0), 2);
         x.tell(3, 0, true);
         Checks.due("look(4, 0), none is left", x.look(4, 0), -2);
+        x.forget();
+        for (int bed = 0; bed < 4; bed++) {
+            x.tell(bed, 0, bed == 2);
+        }
+        Checks.due("look(4, 0), one row is left", x.look(4, 0), 0);
         Checks.due("look(0, 0) of nobody", new PartedSide().look(0, 0), -2);
         Checks.due("look(0, 25) of nobody", new PartedSide().look(0, 25), -1);
         int[][] wrong = {{5, 0}, {-1, 0}, {0, -1}, {0, 25}, {MIN, 0}, {MAX, 0}, {0, MIN}, {0, MAX}};

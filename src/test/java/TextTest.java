@@ -124,6 +124,10 @@ public final class TextTest {
         x = Checks.told("sleeper sleepers 0001 0009;sleeper iff 0 0;sleeper left 1 1;cold 0002 0099;");
         Checks.due("count(3)", x.count(3), 5);
         Checks.due("sleeper(2, 3)", x.sleeper(2, 3), 99);
+        x = Checks.told("sleeper a 1 0;sleeper aa 1 0;sleeper aaa 1 0;sleeper b 1 0;sleeper ab 1 0;sleeper ba 1 0;"
+            + "sleeper zzzzzzzz 1 0;sleeper zzzzzzza 1 0;sleeper azzzzzzz 1 0;cold 8 17;");
+        Checks.due("count(0)", x.count(0), 9);
+        Checks.due("sleeper(8, 3)", x.sleeper(8, 3), 17);
     }
 
     /** What COSTS tells of one sleeper, who lies left, of habit 7, in a cold of 42. */
@@ -166,6 +170,9 @@ public final class TextTest {
         cost("if 2 < 1 then 1 else if 3 < 1 then 2 else if 4 < 1 then 3 else if 5 < 5 then 4 else 5", 5);
         cost("((((((3))))))", 3);
         cost("1+(2+(3+(4+(5+(6+(7*2))))))", 35);
+        // a sum and a product wait within each of the brackets
+        cost("1+1*(1+1*(1+1*(1+1*(1+1*(1+1*(1+1*1))))))", 8);
+        cost("9-1*(9-1*(9-1*(9-1*(9-1*(9-1*(9-1*7))))))", 2);
         cost("1*2+(2*3+(3*4+(4*5+(5*1+(6*1+(7*1+2*2))))))", 62);
         // the last one told counts, and one not told is as it was without a text
         PartedSide x = Checks.told("sleeper a 0 3; costs = 5; lies = 1; costs = 7; parts = habit; chills = 44;");
@@ -280,8 +287,8 @@ public final class TextTest {
             nine += "sleeper " + (char) ('a' + i) + " 1 0;cold " + i + " 9;";
         }
         String[] texts = {nine, nine + "cold 0 1;", nine, "sleeper a 2 0;", "sleeper a 1 0;", "sleeper a 1 0; sleeper a 1 0;",
-            "cold 1 1;", "", "sleeper b 0 0;", "lies = if 1 < 2 then", "sleeper a 1 1; cold 0 1;", "sleeper a 1 1; ring 1; lies = 1;",
-            "sleeper a 0 1;"};
+            "cold 1 1;", "", "sleeper b 0 0;", "lies = if 1 < 2 then", "sleeper a 1 1; cold 0 1;", "sleeper a 1 1; ring 1; lies = 1; seed 7;",
+            "sleeper a 0 1; chills = 95;"};
         int[] faults = {0, 2, 0, 5, 0, 3, 6, 0, 0, 1, 0, 0, 0};
         int[] places = {-1, nine.length(), -1, 10, -1, 23, 9, -1, -1, 20, -1, -1, -1};
         for (int i = 0; i < texts.length; i++) {
@@ -293,6 +300,11 @@ public final class TextTest {
         Checks.due("sleeper(0, 5)", x.sleeper(0, 5), 0);
         Checks.due("count(13)", x.count(13), 0);
         Checks.due("count(6)", x.count(6), 0);
+        // LOT 100 of seed 0 at the hour 0 for the bed 0 is 90, of the hour 24 44; of seed 7 it is 94 and 99
+        Checks.due("then(0, 1, 0), chilled", x.then(0, 1, 0), 1);
+        x.hours(24);
+        Checks.due("count(15)", x.count(15), 24);
+        Checks.due("chilled in the next hour, as by seed 0", x.then(0, 1, 0) != x.count(3), true);
     }
 
     private static void promise5() {

@@ -414,6 +414,8 @@ public final class WouldBeTest {
         x = row("011", "");
         Checks.due("still(0)", x.still(0), 8);
         Checks.due("still(1)", x.still(1), 6);
+        x = row("111111111", "lies = 0;");
+        Checks.due("still(1), nine lie otherwise", x.still(1), 0);
         x = row("011", "lies = 1 - own;");
         Checks.due("still(0)", x.still(0), 0);
         Checks.due("still(1)", x.still(1), -2);
