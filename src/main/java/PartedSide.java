@@ -132,7 +132,7 @@ public final class PartedSide {
         }
         plan.face(now, bed);
         switch (what) {
-            case 0: return plan.lyingAt(now.row, bed);
+            case 0: return now.row >> bed & 1;
             case 1: return now.habits[bed];
             case 2: return now.partings[bed];
             case 3: return plan.colds[bed];
@@ -401,7 +401,7 @@ public final class PartedSide {
         }
         dream.sleepThrough(n, plan.seed);
         switch (what) {
-            case 0: return plan.lyingAt(dream.night.row, bed);
+            case 0: return dream.night.row >> bed & 1;
             case 1: return dream.night.partings[bed];
             default: return Integer.bitCount(dream.night.row);
         }
@@ -817,23 +817,24 @@ public final class PartedSide {
             return (1 << many) - 1;
         }
 
-        /** How one lies in a bed; of a bed that is one past either end, by the ring. */
-        int lyingAt(int row, int bed) {
-            if (bed >= 0 && bed < many) {
-                return row >> bed & 1;
-            }
-            if (!ring) {
-                return 0;
-            }
-            return bed < 0 ? row >> many - 1 & 1 : row & 1;
+        /** By beds: how who lies in the bed one less does; nobody asks for the bit past the last bed. */
+        int rowBefore(int row) {
+            int wrapped = ring ? row >> many - 1 & 1 : 0;
+            return row << 1 | wrapped;
+        }
+
+        /** By beds: how who lies in the bed one more does. */
+        int rowBehind(int row) {
+            int wrapped = ring ? (row & 1) << many - 1 : 0;
+            return row >> 1 | wrapped;
         }
 
         /** The laws asked next are asked of who lies in this bed. */
         void face(Night night, int bed) {
             faceAt(night, bed, night.hourOfDay());
-            vars[OWN] = lyingAt(night.row, bed);
-            vars[BEFORE] = lyingAt(night.row, bed - 1);
-            vars[BEHIND] = lyingAt(night.row, bed + 1);
+            vars[OWN] = night.row >> bed & 1;
+            vars[BEFORE] = rowBefore(night.row) >> bed & 1;
+            vars[BEHIND] = rowBehind(night.row) >> bed & 1;
         }
 
         /** All but how they and those beside them lie. */
@@ -939,9 +940,10 @@ public final class PartedSide {
 
         /** How many lie alike from this bed on. */
         int runFrom(int row, int first) {
+            int side = row >> first & 1;
             int length = 1;
             for (int bed = first + 1; length < many && (ring || bed < many); bed++) {
-                if (lyingAt(row, bed < many ? bed : bed - many) != lyingAt(row, first)) {
+                if ((row >> (bed < many ? bed : bed - many) & 1) != side) {
                     break;
                 }
                 length++;
@@ -951,14 +953,8 @@ public final class PartedSide {
 
         int unlikePairs(int row) {
             // Two beds in a ring stand beside each other twice, and are one pair all the same.
-            int pairs = ring && many > 2 ? many : many - 1;
-            int unlike = 0;
-            for (int bed = 0; bed < pairs; bed++) {
-                if (lyingAt(row, bed) != lyingAt(row, bed + 1)) {
-                    unlike++;
-                }
-            }
-            return unlike;
+            int pairs = ring && many > 2 ? allLeft() : allLeft() >> 1;
+            return Integer.bitCount((row ^ rowBehind(row)) & pairs);
         }
     }
 
@@ -1416,10 +1412,11 @@ public final class PartedSide {
                 plan.passHour(night);
                 return;
             }
+            int before = plan.rowBefore(night.row);
+            int behind = plan.rowBehind(night.row);
             int next = 0;
             for (int bed = 0; bed < plan.many; bed++) {
-                int which = plan.lyingAt(night.row, bed) + 2 * plan.lyingAt(night.row, bed - 1)
-                    + 4 * plan.lyingAt(night.row, bed + 1);
+                int which = night.row >> bed & 1 | (before >> bed & 1) << 1 | (behind >> bed & 1) << 2;
                 next |= (ruleOf(bed) >> which & 1) << bed;
             }
             night.row = next;
@@ -1429,7 +1426,7 @@ public final class PartedSide {
         /** Without partings a rule is the same each day, and asking the law for each row would take long. */
         private int ruleOf(int bed) {
             int at = night.hourOfDay() * MOST_BEDS + bed;
-            if (!within(at, 0, DAY * MOST_BEDS - 1)) {
+            if (at < 0 || at >= DAY * MOST_BEDS) {
                 return 0;
             }
             if (rules[at] == UNKNOWN) {
@@ -1708,8 +1705,9 @@ public final class PartedSide {
             leastKnown = NOT_SO;
             leftInAll = plan.allLeft();
             rightInAll = plan.allLeft();
+            int last = sightings.lastHour(known);
             for (int row = 0; row <= plan.allLeft() && row < ROWS; row++) {
-                marked[row] = fits(row, known);
+                marked[row] = fits(row, known, last);
                 if (marked[row]) {
                     leastKnown = knownRows == 0 ? row : leastKnown;
                     knownRows++;
@@ -1719,8 +1717,7 @@ public final class PartedSide {
             }
         }
 
-        private boolean fits(int row, int known) {
-            int last = sightings.lastHour(known);
+        private boolean fits(int row, int known, int last) {
             dream.lieAs(row);
             for (int n = 0; n < last; n++) {
                 if (!sightings.agree(known, n, dream.night.row)) {
