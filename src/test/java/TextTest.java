@@ -225,6 +225,13 @@ public final class TextTest {
         Checks.fault("lies = name;", 1, 7);
         Checks.fault("lies = 1 \u000b;", 1, 9);
         Checks.fault("ring 1; \0", 1, 8);
+        // What begins the next one does not end the one before it.
+        String[] begun = {"ring ", "begins ", "seed ", "cold ", "cold 0 ", "sleeper ", "sleeper a ", "sleeper a 1 ", "lies ", "lies = ",
+            "lies = 1 + ", "lies = 1 ", "lies = if ", "lies = if 1 < 2 then ", "lies = if 1 < 2 then 1 ", "lies = (1 ", "ring 1 ",
+            "cold 0 1 ", "sleeper a 1 1 ", "parts = 2 * ", "chills = if 1 ", "costs = if 1 < 2 "};
+        for (String first : begun) {
+            Checks.fault(first + "ring 1;", 1, first.length());
+        }
         // A fault of form anywhere comes ahead of all others.
         Checks.fault("sleeper a 2 0; sleeper a 1 10; cold 8 100; x", 1, 43);
     }
@@ -251,7 +258,12 @@ public final class TextTest {
         Checks.fault("lies = (((((((1)))))));", 2, 13);
         Checks.fault("lies = 1 + (((((( 2 * ( 1 ))))))); ?", 2, 22);
         // "lies = 1", n times "+ 1", and ";" are 4 + 2 n tokens, "ring 1;" are 3
-        Checks.fault("lies=1" + Checks.repeated("+1", 198) + ";", 0, -1);
+        String whole = "lies=1" + Checks.repeated("+1", 198) + ";";
+        Checks.fault(whole, 0, -1);
+        for (String more : new String[] {"ring 1;", "begins 1;", "seed 1;", "cold 0 1;", "sleeper a 1 1;", "lies = 1;", "costs"}) {
+            Checks.fault(whole + more, 2, whole.length());
+        }
+        Checks.fault(whole + " own;", 1, whole.length() + 1);
         Checks.fault("lies=1" + Checks.repeated("+1", 199) + ";", 2, 6 + 396 + 1);
         Checks.fault("ring 1;lies=1" + Checks.repeated("+1", 197) + ";", 2, 13 + 394);
         Checks.fault("ring 1;lies=1" + Checks.repeated("+1", 197) + ")", 1, 13 + 394);
