@@ -30,9 +30,10 @@ public final class EdgesTest {
 
     private static void oddArguments(Random random, String text) {
         Checks.about("odd arguments of: " + text);
-        for (int object = 0; object < 6; object++) {
+        for (int object = 0; object < 20; object++) {
             PartedSide x = Checks.told(text);
-            for (int i = 0; i < 400; i++) {
+            // Each of these is followed by up to three calls more, and an object is used for 512.
+            for (int i = 0; i < 120; i++) {
                 int call = random.nextInt(40);
                 int a = odd(random);
                 int b = odd(random);
@@ -94,8 +95,8 @@ public final class EdgesTest {
     /** Texts of any bytes, and whole tapes of one sign: each is read, or told to be faulty within itself. */
     private static void oddBytes(Random random) {
         Checks.about("odd bytes");
-        PartedSide x = new PartedSide();
         for (int sign = 0; sign < 256; sign++) {
+            PartedSide x = new PartedSide();
             int four = sign << 24 | sign << 16 | sign << 8 | sign;
             for (int i = 0; i < 100; i++) {
                 x.feed(four, four, four, four, four);
@@ -105,6 +106,7 @@ public final class EdgesTest {
             Checks.due("place() of the sign " + sign, x.place(), blank ? -1 : 0);
         }
         for (int i = 0; i < 2000; i++) {
+            PartedSide x = new PartedSide();
             int feeds = random.nextInt(5);
             for (int k = 0; k < feeds; k++) {
                 x.feed(random.nextInt(), random.nextInt(), random.nextInt(), random.nextInt(), random.nextInt());
@@ -115,7 +117,7 @@ public final class EdgesTest {
         }
     }
 
-    /** 512 of the dearest calls by long laws that look at partings end soon. */
+    /** As many of the dearest calls as one object is used for, by long laws that look at partings, end soon. */
     private static void dearest() {
         Checks.about("dearest");
         String law = "own" + " + parted * before - behind / 3".repeat(12);
@@ -125,7 +127,7 @@ public final class EdgesTest {
             x.tell(i % 9, 24 - i, i % 3 == 0);
         }
         int least = Integer.MAX_VALUE;
-        for (int i = 0; i < 98; i++) {
+        for (int i = 0; i < 85; i++) {
             least = Math.min(least, x.turned(24, 0));
             least = Math.min(least, x.leads(i, 24, 0));
             least = Math.min(least, x.eden(24));

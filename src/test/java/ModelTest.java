@@ -18,10 +18,12 @@ public final class ModelTest {
             random = new Random(run);
             x = new PartedSide();
             m = new Model();
+            int begun = Checks.checked();
             int texts = 1 + random.nextInt(3);
-            for (int i = 0; i < texts; i++) {
+            for (int i = 0; i < texts && Checks.checked() - begun < 300; i++) {
                 readBoth(text(run % 10 == 0 ? 9 : 6));
-                for (int calls = 0; calls < 90; calls++) {
+                // Each answer is one call, and an object is used for 512.
+                for (int calls = 0; calls < 90 && Checks.checked() - begun < 500; calls++) {
                     call();
                 }
             }

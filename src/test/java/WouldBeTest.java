@@ -30,13 +30,8 @@ public final class WouldBeTest {
         Checks.end("WouldBeTest");
     }
 
-    /** Beds a, b, c, .. of habit 0, lying as the digits tell, and more text. */
     private static PartedSide row(String digits, String more) {
-        StringBuilder text = new StringBuilder();
-        for (int i = 0; i < digits.length(); i++) {
-            text.append("sleeper ").append((char) ('a' + i)).append(' ').append(digits.charAt(i)).append(" 0;");
-        }
-        return Checks.told(text + more);
+        return Checks.row(digits, more);
     }
 
     private static void promise12() {

@@ -31,6 +31,10 @@ final class Checks {
         due(why, 1, 0);
     }
 
+    static int checked() {
+        return checked;
+    }
+
     static void end(String name) {
         System.out.println(name + ": " + checked + " answers, " + wrong + " not as due");
         if (wrong != 0 || checked == 0) {
@@ -60,6 +64,42 @@ final class Checks {
         feed(x, text);
         due("read() of " + text, x.read(), 0);
         return x;
+    }
+
+    /** Beds a, b, c, .. of habit 0, lying as the digits tell, as a text. */
+    static String beds(String digits) {
+        StringBuilder text = new StringBuilder();
+        for (int i = 0; i < digits.length(); i++) {
+            text.append("sleeper ").append((char) ('a' + i)).append(' ').append(digits.charAt(i)).append(" 0;");
+        }
+        return text.toString();
+    }
+
+    static PartedSide row(String digits, String more) {
+        return told(beds(digits) + more);
+    }
+
+    /** All that can be seen of what goes on, but for the tape. */
+    static String seen(PartedSide x) {
+        StringBuilder all = new StringBuilder();
+        for (int what = 0; what <= 16; what++) {
+            all.append(what == 7 ? "" : x.count(what) + " ");
+        }
+        return all + sleepers(x);
+    }
+
+    static String sleepers(PartedSide x) {
+        StringBuilder all = new StringBuilder();
+        for (int bed = 0; bed < x.count(0); bed++) {
+            for (int what = 0; what <= 9; what++) {
+                all.append(x.sleeper(bed, what)).append(what == 9 ? "; " : " ");
+            }
+        }
+        return all.toString();
+    }
+
+    static void same(String call, String got, String want) {
+        due(call + ": " + got + " | " + want, got.equals(want), true);
     }
 
     /** A text with a fault: its number and its place. */
