@@ -11,6 +11,7 @@ public final class EdgesTest {
         oddArguments(random, "sleeper a 1 0; ring 1;");
         oddArguments(random, nine("lies = 1 / (parted - 3) + habit / before; parts = 9999 * 9999 * 22 / bed; chills = 50 / own;"
             + "costs = 2048 * 1024 * 1024 / (0 - own); ring 1; seed 9999; begins 23;"));
+        lateCalls(random);
         oddBytes(random);
         dearest();
         Checks.end("EdgesTest");
@@ -40,11 +41,27 @@ public final class EdgesTest {
                 int c = odd(random);
                 try {
                     call(x, call, a, b, c);
+                    Checks.due("a row that there can be", x.count(3) >= 0 && x.count(3) < 1 << x.count(0), true);
                 } catch (RuntimeException e) {
                     Checks.fail("call " + call + " of " + a + ", " + b + ", " + c + " threw " + e);
                 }
             }
         }
+    }
+
+    /** What is answered after 512 calls is free, but nothing throws. */
+    private static void lateCalls(Random random) {
+        Checks.about("late calls");
+        PartedSide x = Checks.told(nine("lies = before; parts = 99; chills = 50; ring 1;"));
+        int thrown = 0;
+        for (int i = 0; i < 5000; i++) {
+            try {
+                call(x, random.nextInt(40), random.nextInt(49), random.nextInt(25), random.nextInt(4));
+            } catch (RuntimeException e) {
+                thrown++;
+            }
+        }
+        Checks.due("calls that threw", thrown, 0);
     }
 
     private static void call(PartedSide x, int call, int a, int b, int c) {
@@ -89,7 +106,6 @@ public final class EdgesTest {
             case 37: x.restore(a); break;
             default: x.count(a); break;
         }
-        Checks.due("a row that there can be", x.count(3) >= 0 && x.count(3) < 1 << x.count(0), true);
     }
 
     /** Texts of any bytes, and whole tapes of one sign: each is read, or told to be faulty within itself. */

@@ -512,7 +512,7 @@ final class HourSentences {
         before[1] = Checks.seen(x);
         x.whistle();
         before[2] = Checks.seen(x);
-        x.change(0, 2);
+        x.change(0, 1);
         before[3] = Checks.seen(x);
         x.hours(30);
         x.hours(0);
@@ -563,6 +563,7 @@ final class HourSentences {
         String before = Checks.seen(x);
         x.change(8, 7);
         x.turn(8);
+        Checks.due("count(6)", x.count(6), 256);
         x.undo();
         x.undo();
         Checks.same("the ninth, too", Checks.seen(x), before);

@@ -583,9 +583,9 @@ final class TextSentences {
             PartedSide x = Checks.told("sleeper x 1 3; sleeper y 0 4; sleeper z 1 5; cold 1 20; ring 1; begins 7; seed 9;"
                 + "lies = before; parts = habit; chills = 60; costs = 2 + bed;");
             x.hours(5);
-            x.after(0, 24);
             x.turn(1);
             x.tell(1, 2, true);
+            x.after(0, 24);
             for (int slot = 0; slot < 3; slot++) {
                 x.hold(slot);
             }
